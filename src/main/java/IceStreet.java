@@ -23,6 +23,7 @@ public final class IceStreet {
     private static final int FAR_DAYS = 60;
     private static final int OLD_DAYS = 30;
     private static final int DRAWN_DAYS = 6;
+    private static final int BEYOND_WORTH = 1000;
     private static final int MOST_PAUSE = 40;
     private static final int LUCKY_STEPS = 7;
     /** Enough to find one of all that the thickest ice can BEAR, 99 times 99. */
@@ -215,7 +216,13 @@ public final class IceStreet {
             return NONE;
         }
         now.begin(told.lakes[lake], told.laws[law]);
-        return deeds.follow(now, told.plans[plan], MOST_ACTS);
+        int acts = told.plans[plan].actCount;
+        for (int i = 0; i < acts; i++) {
+            if (!deeds.perform(now, told.plans[plan], i)) {
+                return i;
+            }
+        }
+        return acts;
     }
 
     public int state(int lake, int law, int plan, int n, int what) {
@@ -317,7 +324,8 @@ public final class IceStreet {
         if (what != 0 && !isDay) {
             return NO_SUCH;
         }
-        drawing.seek(now, days);
+        drawing.ready(now, days);
+        drawing.tryDay(0);
         return isDay ? drawing.best[what - 10] : drawing.bestWorth;
     }
 
@@ -509,7 +517,12 @@ public final class IceStreet {
             return false;
         }
         now.begin(told.lakes[lake], told.laws[law]);
-        return n == 0 || deeds.follow(now, told.plans[plan], n) == n;
+        for (int i = 0; i < n; i++) {
+            if (!deeds.perform(now, told.plans[plan], i)) {
+                return false;
+            }
+        }
+        return true;
     }
 
     private boolean isTrip(int load, int from, int to) {
@@ -859,8 +872,9 @@ public final class IceStreet {
         private static final int MOVE = 17;
         private static final int OFF = 18;
         private static final int GO = 19;
+        private static final int SWEEP = 20;
         /** The lines of a sort of text are from its number here up to the next one. */
-        private static final int[] LINES_OF_SORT = {SIZE, LEAST, DAY, 21};
+        private static final int[] LINES_OF_SORT = {SIZE, LEAST, DAY, SWEEP + 1};
 
         final Lake lake = new Lake();
         final Law law = new Law();
@@ -1036,11 +1050,15 @@ public final class IceStreet {
                 case MOVE: return "move";
                 case OFF: return "off";
                 case GO: return "go";
-                default: return "sweep";
+                case SWEEP: return "sweep";
+                default: return "";
             }
         }
 
-        /** A letter for each number of a line, by what it can be (see least and greatest). */
+        /**
+         * A letter for each number of a line, by what it can be: c a CELL, o another one than the number before,
+         * s a SHOP, z 2 .. 6, n 0 .. 9, h 0 .. 10, p 1 .. 99, t 0 .. 99, f -20 .. 20.
+         */
         private static String numbersOf(int line) {
             switch (line) {
                 case SIZE: return "zz";
@@ -1058,10 +1076,10 @@ public final class IceStreet {
                 case MOVE: return "sc";
                 case OFF: return "s";
                 case GO: return "pco";
-                case ALL:
-                case LEAST:
-                case RENT: return "t";
-                default: return "c";
+                case SHORE:
+                case BAR:
+                case SWEEP: return "c";
+                default: return "t";
             }
         }
 
@@ -1338,7 +1356,7 @@ public final class IceStreet {
 
         int nextToFall() {
             for (int s = 0; s < lake.shopCount; s++) {
-                if (at[s] >= 0 && load[at[s]] > bears(at[s])) {
+                if (at[s] >= 0 && load[at[s]] > lake.bearing(thick[at[s]])) {
                     return s;
                 }
             }
@@ -1364,7 +1382,8 @@ public final class IceStreet {
             for (int c = 0; c < lake.cells(); c++) {
                 freeze(c, f);
             }
-            closeDay();
+            pay();
+            settle();
         }
 
         /** As passDay where it matters who FALLS alone: that hangs on no other CELLS. */
@@ -1374,7 +1393,8 @@ public final class IceStreet {
                     freeze(at[s], f);
                 }
             }
-            closeDay();
+            pay();
+            settle();
         }
 
         private void freeze(int c, int f) {
@@ -1382,14 +1402,13 @@ public final class IceStreet {
             thick[c] = Math.max(0, Math.min(MOST_THICK, thick[c] + more - heat[c]));
         }
 
-        private void closeDay() {
+        private void pay() {
             day++;
             for (int s = 0; s < lake.shopCount; s++) {
                 if (at[s] >= 0) {
                     paid += law.dueFor(thick[at[s]]);
                 }
             }
-            settle();
         }
 
         int lost() {
@@ -1504,7 +1523,7 @@ public final class IceStreet {
         }
 
         private boolean mayStep(int c, int d) {
-            return !hasBit(law.against[c], d);
+            return (law.against[c] >>> d & 1L) == 0L;
         }
 
         boolean find(int sort, int load, int from, int to) {
@@ -1516,7 +1535,7 @@ public final class IceStreet {
             }
         }
 
-        private boolean findShort(int load, int from, int to) {
+        boolean findShort(int load, int from, int to) {
             int left = measure(load, from, to);
             if (left == NONE) {
                 return false;
@@ -1719,7 +1738,7 @@ public final class IceStreet {
             return NONE;
         }
 
-        /** One CELL of each WAY must go, so one of SHORT, too. */
+        /** Whether so many CELLS can go that there is no WAY: of each WAY one must, so of SHORT, too. */
         private boolean isCutBy(int cuts, int load, int from, int to) {
             if (!findShort(load, from, to)) {
                 return true;
@@ -1728,15 +1747,19 @@ public final class IceStreet {
                 return false;
             }
             long inner = pathCells() & ~bit(from) & ~bit(to);
-            boolean cut = false;
-            for (int c = 0; c < lake.cells() && !cut; c++) {
-                if (hasBit(inner, c)) {
-                    int was = room[c];
-                    room[c] = 0;
-                    cut = isCutBy(cuts - 1, load, from, to);
-                    room[c] = was;
+            for (int c = 0; c < lake.cells(); c++) {
+                if (hasBit(inner, c) && isCutWithout(c, cuts, load, from, to)) {
+                    return true;
                 }
             }
+            return false;
+        }
+
+        private boolean isCutWithout(int c, int cuts, int load, int from, int to) {
+            int was = room[c];
+            room[c] = 0;
+            boolean cut = isCutBy(cuts - 1, load, from, to);
+            room[c] = was;
             return cut;
         }
 
@@ -1833,18 +1856,8 @@ public final class IceStreet {
             ways = someWays;
         }
 
-        /** Does so many ACTS, or up to the first that can't be: how many it did. */
-        int follow(Scene scene, Plan plan, int many) {
-            int acts = Math.min(many, plan.actCount);
-            for (int i = 0; i < acts; i++) {
-                if (!perform(scene, plan, i)) {
-                    return i;
-                }
-            }
-            return acts;
-        }
-
-        private boolean perform(Scene scene, Plan plan, int i) {
+        /** Does an ACT; false, and nothing is done, if it can't be. */
+        boolean perform(Scene scene, Plan plan, int i) {
             int a = plan.first[i];
             switch (plan.sorts[i]) {
                 case ACT_DAY:
@@ -1853,7 +1866,8 @@ public final class IceStreet {
                 case ACT_MOVE: return moveShop(scene, a, plan.second[i]);
                 case ACT_OFF: return drawShop(scene, a);
                 case ACT_GO: return ride(scene, a, plan.second[i], plan.third[i]);
-                default: return sweepCell(scene, a);
+                case ACT_SWEEP: return sweepCell(scene, a);
+                default: return false;
             }
         }
 
@@ -1878,7 +1892,7 @@ public final class IceStreet {
                 return false;
             }
             ways.survey(scene, 0);
-            if (!ways.find(SHORT, load, from, to)) {
+            if (!ways.findShort(load, from, to)) {
                 return false;
             }
             for (int i = 0; i < ways.length; i++) {
@@ -2150,22 +2164,20 @@ public final class IceStreet {
             hoped = new Scene(firstLake, firstLaw);
         }
 
-        void seek(Scene scene, int manyDays) {
+        void ready(Scene scene, int manyDays) {
             days = Math.min(manyDays, DRAWN_DAYS);
             scenes[0].become(scene);
-            bestWorth = Integer.MAX_VALUE;
-            tryDay(0);
+            bestWorth = BEYOND_WORTH;
         }
 
         /** Rows are tried in their order, none last: of several with the least WORTH the first one stays. */
         private void tryDay(int d) {
             Scene scene = scenes[d];
-            if (worthAtLeast(scene, days - d) >= bestWorth) {
+            if (d >= days) {
+                keepBetter(scene.worthNotOff());
                 return;
             }
-            if (d >= days) {
-                bestWorth = scene.worthNotOff();
-                System.arraycopy(row, 0, best, 0, days);
+            if (worthAtLeast(scene, days - d, shopsWithHope(scene, days - d)) >= bestWorth) {
                 return;
             }
             for (int s = 0; s < scene.lake.shopCount; s++) {
@@ -2187,20 +2199,27 @@ public final class IceStreet {
             tryDay(d + 1);
         }
 
-        /** What stays, were the dearest of those with hope to go off on all DAYS that are left. */
-        private int worthAtLeast(Scene scene, int daysLeft) {
+        private void keepBetter(int worth) {
+            if (worth < bestWorth) {
+                bestWorth = worth;
+                System.arraycopy(row, 0, best, 0, days);
+            }
+        }
+
+        /** What stays, were the dearest of the hopeful ones (bits) to go off on all DAYS that are left. */
+        private static int worthAtLeast(Scene scene, int daysLeft, int hopeful) {
             int worth = scene.worthNotOff();
-            int hopeful = daysLeft > 0 ? shopsWithHope(scene, daysLeft) : 0;
-            for (int k = 0; k < daysLeft && hopeful != 0; k++) {
+            int left = hopeful;
+            for (int k = 0; k < daysLeft && left != 0; k++) {
                 int dearest = NONE;
                 for (int s = 0; s < scene.lake.shopCount; s++) {
                     boolean dearer = dearest == NONE || scene.lake.worth[s] > scene.lake.worth[dearest];
-                    if ((hopeful >> s & 1) != 0 && dearer) {
+                    if ((left >> s & 1) != 0 && dearer) {
                         dearest = s;
                     }
                 }
                 if (dearest != NONE) {
-                    hopeful &= ~(1 << dearest);
+                    left &= ~(1 << dearest);
                     worth -= scene.lake.worth[dearest];
                 }
             }
@@ -2237,7 +2256,7 @@ public final class IceStreet {
 
         boolean take(Ways ways, int ofLoad, int way) {
             load = ofLoad;
-            if (!ways.find(SHORT, ofLoad, way % 100, way / 100)) {
+            if (!ways.findShort(ofLoad, way % 100, way / 100)) {
                 return false;
             }
             length = ways.length;
