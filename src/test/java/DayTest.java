@@ -62,6 +62,7 @@ public final class DayTest {
         }
         C.due("no such state", x.fair(0, 0, 0, 1, 1, 1, 1, false), -1);
         fair(Check.street(lake, "", ""), 40, 3, 2, 0, 60);
+        fair(Check.street("size 6 6;", "", ""), 40, 6, 6, 0, 60);
         fair(Check.street(lake + "frost -1 20;", "", ""), 40, 3, 1, 0, 0);
         fair(Check.street(lake + "frost 1 -20;", "", ""), 40, 3, 1, 0, 1);
         // A SHOP, and its LOAD of 5 beside it.
@@ -142,6 +143,11 @@ public final class DayTest {
         C.due("none is warmed", Check.street(lake + "crack 0 1;crack 1 2;", "", "").hearth(0, 0, 0, 0), -1);
         C.due("no shops", Check.street("", "", "").hearth(0, 0, 0, 0), -1);
         C.due("its own does not count", Check.street("shop 0 10 9 1;", "", "").hearth(0, 0, 0, 0), -1);
+        // 60 DAYS with it, 61 without: SNOW keeps the frost from shop 0's CELL alone.
+        C.due("one day more", Check.street("size 2 2;all 80;snow 0 9;frost 3;shop 0 41 0 1;shop 1 1 3 1;", "share 0;", "")
+            .hearth(0, 0, 0, 0), 1);
+        C.due("not one day more", Check.street("size 2 2;all 80;snow 0 9;frost 3;shop 0 40 0 1;shop 1 1 3 1;", "share 0;",
+            "").hearth(0, 0, 0, 0), -1);
         // 0 and 1 warm one another: of several the least.
         C.due("the least", Check.street("all 30;shop 0 10 2 1;shop 1 10 2 1;", "", "").hearth(0, 0, 0, 0), 0);
     }
@@ -292,6 +298,8 @@ public final class DayTest {
         C.due("snow", x.cold(0, 0, 0, 0, 0, 60), 18);
         x = Check.street("snow 0 9;shop 0 30 9 1;shop 1 1 8 1;", "", "");
         C.due("by none", x.cold(0, 0, 0, 0, 0, 60), -100);
+        C.due("by 21", Check.street("snow 0 9;shop 0 30 9 1;shop 1 1 6 1;", "", "").cold(0, 0, 0, 0, 0, 60), -100);
+        C.due("by 20", Check.street("snow 0 9;shop 0 30 9 1;shop 1 1 4 1;", "", "").cold(0, 0, 0, 0, 0, 60), 20);
         C.due("whatever", Check.street("all 90;shop 0 1 0 1;", "", "").cold(0, 0, 0, 0, 0, 4), -20);
         C.due("0 days", x.cold(0, 0, 0, 0, 0, 0), -100);
         C.due("61 days", x.cold(0, 0, 0, 0, 0, 61), -100);

@@ -763,6 +763,38 @@ final class Model {
         return m;
     }
 
+    /** A small LAKE full of SHOPS that can go off on some DAYS and not on others. */
+    static Model crowded(Random r) {
+        Model m = new Model();
+        m.w = 2 + r.nextInt(2);
+        m.h = 2 + r.nextInt(2);
+        int n = m.cells();
+        m.bear = 10;
+        m.thick = new int[n];
+        m.snow = new int[n];
+        m.weak = new int[n];
+        m.shore = new boolean[n];
+        for (int c = 0; c < n; c++) {
+            m.thick[c] = 8 + r.nextInt(14);
+            m.snow[c] = r.nextInt(2) * r.nextInt(6);
+        }
+        m.shore[r.nextInt(n)] = true;
+        m.frosts = new int[1 + r.nextInt(5)];
+        for (int i = 0; i < m.frosts.length; i++) {
+            m.frosts[i] = r.nextInt(12) - 4;
+        }
+        for (int c = 0; c < n && m.shops.size() < 6; c++) {
+            if (r.nextInt(5) < 3) {
+                int most = Math.max(1, m.thick[c] * m.thick[c] / 10);
+                m.shops.add(r.nextInt(m.shops.size() + 1), new int[] {c, 1 + r.nextInt(most), r.nextInt(4), r.nextInt(10)});
+            }
+        }
+        m.law(r);
+        m.share = r.nextInt(4);
+        m.least = 0;
+        return m;
+    }
+
     private void law(Random r) {
         least = r.nextInt(2) * r.nextInt(30);
         apart = r.nextInt(2) * r.nextInt(5);

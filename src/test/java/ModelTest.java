@@ -36,6 +36,13 @@ public final class ModelTest {
             }
             askDays(s, n, r);
         }
+        for (int seed = 0; seed < 20 * rounds; seed++) {
+            Random r = new Random(~seed);
+            m = Model.crowded(r);
+            run = "crowd " + seed + ": ";
+            x = Check.street(m.lakeText(), m.lawText(), "");
+            askDrawn(m.state(0), 0, 2 + r.nextInt(m.shops.size() > 4 ? 3 : 5));
+        }
         CHECK.finish();
     }
 
@@ -210,6 +217,14 @@ public final class ModelTest {
         due("fallen " + k, x.fallen(0, 0, 0, n, seed, w, days, k), fallen);
     }
 
+    private static void askDrawn(Model.State s, int n, int days) {
+        int[] drawn = m.drawn(s, days);
+        due("drawn", x.drawn(0, 0, 0, n, days, 0), drawn[0]);
+        for (int d = 0; d < days; d++) {
+            due("drawn " + d, x.drawn(0, 0, 0, n, days, 10 + d), drawn[1 + d]);
+        }
+    }
+
     private static void askDays(Model.State s, int n, Random r) {
         due("hearth", x.hearth(0, 0, 0, n), m.hearth(s));
         due("gulls", x.gulls(0, 0, 0, n), m.gulls(s));
@@ -221,12 +236,7 @@ public final class ModelTest {
             due("fair " + weight, x.fair(0, 0, 0, n, weight, w, h, false), fair == null ? -1 : fair[0]);
             due("fair days " + weight, x.fair(0, 0, 0, n, weight, w, h, true), fair == null ? -1 : fair[1]);
         }
-        int days = 1 + r.nextInt(4);
-        int[] drawn = m.drawn(s, days);
-        due("drawn", x.drawn(0, 0, 0, n, days, 0), drawn[0]);
-        for (int d = 0; d < days; d++) {
-            due("drawn " + d, x.drawn(0, 0, 0, n, days, 10 + d), drawn[1 + d]);
-        }
+        askDrawn(s, n, 1 + r.nextInt(4));
         int seed = r.nextInt();
         int long_ = r.nextInt(61);
         Model.State win = m.winter(s, seed, long_);

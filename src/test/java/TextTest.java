@@ -77,6 +77,7 @@ public final class TextTest {
         C.faulty(0, "all 020;", 1, 4);
         C.faulty(0, "allx 20;", 1, 0);
         C.faulty(0, "al l 20;", 1, 0);
+        C.faulty(0, "ell 20;", 1, 0);
         C.faulty(0, "al", 1, 0);
         C.faulty(0, "all 20", 1, 6);
         C.faulty(0, "all 20  ", 1, 8);

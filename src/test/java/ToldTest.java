@@ -46,10 +46,14 @@ public final class ToldTest {
         for (int k = 0; k < frosts.length; k++) {
             C.due("frost " + k, x.lake(0, 20 + k), frosts[k]);
         }
+        C.told(x, 0, "", 1);
+        C.due("frost of another lake", x.lake(1, 20), 0);
+        C.due("thick of another lake", x.cell(1, 3, 0), 20);
+        C.due("shops of another lake", x.lake(1, 4), 0);
         C.due("lake what 5", x.lake(0, 5), -100);
         C.due("lake what 19", x.lake(0, 19), -100);
         C.due("lake what -1", x.lake(0, -1), -100);
-        C.due("lake 1", x.lake(1, 0), -100);
+        C.due("lake 2", x.lake(2, 0), -100);
         C.due("lake -1", x.lake(-1, 0), -100);
         int[] thick = {30, 30, 40, 61, 30, 30, 30, 30, 30, 30, -1};
         int[] snow = {0, 0, 0, 0, 9, 0, 0, 0, 0, 0, -1};
@@ -65,7 +69,7 @@ public final class ToldTest {
             C.due("cell what 5", x.cell(0, c, 5), -1);
         }
         C.due("cell -1", x.cell(0, -1, 0), -1);
-        C.due("cell of lake 1", x.cell(1, 0, 0), -1);
+        C.due("cell of lake 2", x.cell(2, 0, 0), -1);
         C.due("cell what -1", x.cell(0, 0, -1), -1);
         int[][] shops = {{9, 99, 8, 7, -1}, {0, 1, 0, 0, -1}, {-1, -1, -1, -1, -1}};
         for (int k = 0; k < 3; k++) {
@@ -75,6 +79,7 @@ public final class ToldTest {
         }
         C.due("shop -1", x.shop(0, -1, 1), -1);
         C.due("shop of lake 1", x.shop(1, 0, 1), -1);
+        C.due("shop of lake 2", x.shop(2, 0, 1), -1);
         C.due("shop what -1", x.shop(0, 0, -1), -1);
     }
 
