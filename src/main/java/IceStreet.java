@@ -94,25 +94,29 @@ public final class IceStreet {
     }
 
     public int text(int sort, int at) {
+        // The tape is taken whatever the answer is, also where no text is read.
+        int length = told.taped;
+        told.taped = 0;
         told.fault = 0;
         told.place = NONE;
-        if (sort < LAKE || sort > PLAN) {
+        if (!hasPlace(sort, at)) {
             return NO_SUCH;
         }
-        boolean further = at == NONE;
-        if (further ? told.counts[sort] >= MOST_OF_SORT[sort] : !told.has(sort, at)) {
-            return NO_SUCH;
-        }
-        boolean sound = reader.read(told.tape, told.taped, sort);
-        told.taped = 0;
-        if (!sound) {
+        if (!reader.read(told.tape, length, sort)) {
             told.fault = reader.fault;
             told.place = reader.place;
             return NONE;
         }
-        int number = further ? told.counts[sort]++ : at;
+        int number = at == NONE ? told.counts[sort]++ : at;
         keepDraft(sort, number);
         return number;
+    }
+
+    private boolean hasPlace(int sort, int at) {
+        if (sort < LAKE || sort > PLAN) {
+            return false;
+        }
+        return at == NONE ? told.counts[sort] < MOST_OF_SORT[sort] : told.has(sort, at);
     }
 
     private void keepDraft(int sort, int number) {

@@ -5,6 +5,7 @@ public final class TextTest {
     public static void main(String[] args) {
         newObject();
         tape();
+        tapeBehindNoText();
         tokens();
         numbersThatCannotBe();
         tooMany();
@@ -61,6 +62,31 @@ public final class TextTest {
         C.due("its fault", x.fault(0), 1);
         C.due("its place", x.fault(1), 0);
         C.due("the tape is empty behind a fault", x.feed(0, 0, 0, 0, 0), 20);
+    }
+
+    /** The tape is taken by each text(), also by one that reads none. */
+    private static void tapeBehindNoText() {
+        int[][] noText = {{0, 0}, {0, -2}, {1, 5}, {2, 3}, {3, -1}, {-1, -1}, {3, 0}};
+        for (int[] call : noText) {
+            IceStreet x = new IceStreet();
+            x.feed(0, 0, 0, 0, 0);
+            String named = "text(" + call[0] + ", " + call[1] + ")";
+            C.due(named, x.text(call[0], call[1]), -2);
+            C.due("end(1) behind " + named, x.end(1), -1);
+            C.due("feed behind " + named, x.feed(0, 0, 0, 0, 0), 20);
+        }
+        for (int sort = 0; sort < 3; sort++) {
+            IceStreet x = new IceStreet();
+            for (int k = 0; k < (sort == 2 ? 3 : 2); k++) {
+                C.told(x, sort, "", k);
+            }
+            Check.put(x, "no text");
+            C.due("image", x.image(0), true);
+            C.due("one more than may be", x.text(sort, -1), -2);
+            C.due("its tape", x.end(1), -1);
+            C.due("again", x.again(0), true);
+            C.due("the tape of the image", x.end(7), 7);
+        }
     }
 
     private static void tokens() {
@@ -237,8 +263,7 @@ public final class TextTest {
         C.due("plans", x.count(2), 3);
         C.due("a fault", Check.tell(x, 0, 0, "all"), -1);
         C.due("fault", x.fault(0), 1);
-        Check.put(x, "all 3;");
-        C.due("a third lake", x.text(0, -1), -2);
+        C.due("a third lake", Check.tell(x, 0, -1, "all 3"), -2);
         C.due("fault behind it", x.fault(0), 0);
         C.due("place behind it", x.fault(1), -1);
         C.due("a third law", x.text(1, -1), -2);
@@ -248,8 +273,7 @@ public final class TextTest {
         C.due("no such plan", x.text(2, 3), -2);
         C.due("no such sort", x.text(3, 0), -2);
         C.due("no such sort", x.text(-1, -1), -2);
-        // No text was read, so the tape has it yet.
-        C.due("in the place of one", x.text(0, 1), 1);
+        C.due("in the place of one", Check.tell(x, 0, 1, "all 3;"), 1);
         C.due("told anew", x.cell(1, 0, 0), 3);
         C.due("the other one", x.cell(0, 0, 0), 1);
         C.due("lakes yet", x.count(0), 2);
