@@ -96,6 +96,12 @@ final class EdgeDays {
         fair("beside a thin CELL", "size 3 2;ice 1 3;", 1, 1, 2, 0, 60);
         fair("2 by 1 below it", "size 3 2;ice 1 3;", 1, 2, 1, 3, 60);
         fair("2 by 2 with it", "size 3 2;ice 1 3;", 1, 2, 2, -1, 0);
+        fair("2 by 2 with one below", "size 3 2;ice 4 3;", 1, 2, 2, -1, 0);
+        fair("2 by 2 beside one below", "size 3 2;ice 3 3;", 1, 2, 2, 1, 60);
+        fair("2 by 3 with one below", "size 3 3;ice 6 3;", 1, 2, 3, 1, 60);
+        fair("6 by 6 without the last", "size 6 6;ice 35 3;", 1, 6, 6, -1, 0);
+        fair("5 by 6 without the last", "size 6 6;ice 35 3;", 1, 5, 6, 0, 60);
+        fair("5 by 6 without the first", "size 6 6;ice 0 3;", 1, 5, 6, 1, 60);
         fair("beside a SHOP, 35 and 5", "size 2 2;shop 0 10 0 1;", 35, 1, 1, 1, 60);
         fair("beside a SHOP, 36 and 5", "size 2 2;shop 0 10 0 1;", 36, 1, 1, 3, 60);
         fair("with a SHOP", "size 2 2;shop 0 10 0 1;", 1, 2, 2, -1, 0);
@@ -160,6 +166,7 @@ final class EdgeDays {
         draws("one that fell counts, and those that stand", x, 0, 1, 9 + 7 + 3, 0);
         draws("one that is off does not", x, 1, 1, 9 + 3, 2);
         draws("none left", street(""), 0, 1, 0, -1);
+        drawnLate();
         draws("the greatest WORTH", street("all 0;shop 0 1 0 99;shop 1 1 0 99;shop 2 1 0 99;shop 3 1 0 99;shop 4 1 0 99;"
             + "shop 5 1 0 99;"), 0, 1, 594, -1);
 
@@ -172,6 +179,18 @@ final class EdgeDays {
         draws("one without WORTH behind a dear one", street("shore 0 1;shop 0 10 0 9;shop 1 10 0 0;"), 0, 1, 0, 0);
         draws("a dear one", street("shore 0 1;shop 0 10 0 0;shop 1 10 0 9;"), 0, 1, 0, 1);
         draws("both", street("shore 0 1;shop 0 10 0 0;shop 1 10 0 9;"), 0, 2, 0, 0, 1);
+    }
+
+    /** A dear one can go on a later DAY alone, so that rows which begin with a cheap one are worse. */
+    private void drawnLate() {
+        draws("its WAY bears it on the third DAY", street("size 3 2;ice 0 4;ice 2 8;ice 3 4;frost 1;shore 0 2 3;"
+            + "shop 0 1 0 1;shop 2 4 0 5;shop 3 1 0 5;shop 5 10 0 9;"), 0, 3, 1, 1, 2, 3);
+        draws("its WAY is free when SHOP 2 is off", street("size 3 2;ice 0 4;ice 3 4;shore 0 2 3;"
+            + "shop 0 1 0 1;shop 3 1 0 5;shop 2 4 0 5;shop 5 10 0 9;"), 0, 3, 1, 1, 2, 3);
+        draws("its WAY is free when CELL 0 is", street("size 3 2;ice 2 4;ice 5 4;shore 0 2 5;"
+            + "shop 2 1 0 1;shop 5 1 0 5;shop 0 4 0 5;shop 3 10 0 9;"), 0, 3, 1, 1, 2, 3);
+        draws("it is SHOP 0 in CELL 0", street("size 3 2;ice 1 4;ice 2 4;ice 5 4;shore 2 3 5;"
+            + "shop 0 10 0 9;shop 2 1 0 1;shop 3 4 0 5;shop 5 1 0 5;"), 0, 3, 1, 2, 0, 3);
     }
 
     private void set(String what, String lake, String law, int cell) {
@@ -212,6 +231,7 @@ final class EdgeDays {
         e.beyond("its own does not count", street("size 3 2;all 30;shop 0 9 9 1;shop 5 9 9 1;").hearth(0, 0, 0, 0), -1);
         e.beyond("a CRACK between", street("size 3 2;all 30;crack 0 1;shop 0 9 0 1;shop 1 9 9 1;").hearth(0, 0, 0, 0), -1);
         e.at("of several the least", street("size 3 2;all 30;shop 0 9 2 1;shop 1 9 2 1;").hearth(0, 0, 0, 0), 0);
+        e.beyond("its LOAD stays", Check.street("frost -1;shop 0 30 0 1;shop 1 20 1 1;", "", "").hearth(0, 0, 0, 0), -1);
         String long60 = "size 2 2;all 80;snow 0 9;frost 2;shop 0 41 0 1;shop 1 1 2 1;";
         e.at("60 DAYS become 61", street(long60).hearth(0, 0, 0, 0), 1);
         e.beyond("61 can't become more", street(long60.replace("0 41", "0 40")).hearth(0, 0, 0, 0), -1);
@@ -227,6 +247,8 @@ final class EdgeDays {
         e.beyond("behind 61", street("all 61;frost -1;").gulls(0, 0, 0, 0), -1);
         e.at("of several the least", street("all 9;ice 7 4;ice 6 4;ice 5 5;frost -1;").gulls(0, 0, 0, 0), 6);
         e.beyond("0 THICK now", street("all 0;frost -1;").gulls(0, 0, 0, 0), -1);
+        e.at("CELL 35", street("size 6 6;all 9;ice 35 8;frost -1;").gulls(0, 0, 0, 0), 35);
+        e.beyond("none of 6 by 6", street("size 6 6;").gulls(0, 0, 0, 0), -1);
         e.beyond("0 THICK now, and again", street("size 2 2;all 99;ice 0 0;frost 1 -1;").gulls(0, 0, 0, 0), -1);
         e.at("where a SHOP falls", street("all 20;ice 1 3;frost -1;shop 9 40 0 1;").gulls(0, 0, 0, 0), 9);
         e.at("before one falls", street("all 20;ice 1 1;frost -1;shop 9 36 0 1;").gulls(0, 0, 0, 0), 1);
@@ -331,6 +353,7 @@ final class EdgeDays {
         // With SNOW its ice loses 1 inch a DAY, without it is as it is.
         e.at("its own CELL", shopping("frost 1;snow 5 1;snow 4 9;shop 5 30 1 1;", 0), 5);
         e.beyond("no SNOW there", shopping("frost 1;snow 4 9;shop 5 30 1 1;", 0), 0);
+        e.at("CELL 35", shopping("size 6 6;frost 1;snow 35 1;snow 4 9;shop 35 30 1 1;", 0), 35);
         e.at("of several the least", shopping("shop 5 30 0 1;", 0), 0);
         e.beyond("no longer, whichever", shopping("frost -1;snow 5 1;shop 5 30 1 1;", 0), 0);
         e.beyond("beyond 60 is no longer", shopping("all 99;frost 1;snow 5 1;bear 1;shop 5 30 1 1;", 0), 0);
@@ -541,6 +564,8 @@ final class EdgeDays {
         e.at("PAID", x.winter(0, 0, 0, 0, 5, 1, 1), Math.min(99, 99 + f) + Math.min(99, 99 + f - 9));
         e.at("PAID before, too", x.winter(0, 0, 0, 1, 5, 0, 1), 99 + 93);
         e.at("how many stand", x.winter(0, 0, 0, 0, 5, 1, 2), 2);
+        e.at("one that stands in CELL 0", street("shop 0 9 0 1;").winter(0, 0, 0, 0, 5, 0, 2), 1);
+        e.at("none", street("").winter(0, 0, 0, 0, 5, 0, 2), 0);
         e.at("LOST behind 60", x.winter(0, 0, 0, 0, 5, 60, 0), 16);
         e.at("how many stand behind 60", x.winter(0, 0, 0, 0, 5, 60, 2), 1);
         e.at("THICK 2", x.winter(0, 0, 0, 0, 5, 1, 102), Math.min(99, 99 + f - 9));

@@ -375,6 +375,10 @@ final class EdgeStates {
         }
         e.at("THICK", x.ice(0, 0, 0, 1, 0, 0), 20);
         e.beyond("STOP", x.stop(0, 0, 0), 1);
+        x = Check.street(snow, "", "go 1 0 1;");
+        e.at("a longer one was asked for before", x.way(0, 0, 0, 0, 1, 0, 5, 0, 12), 2);
+        e.at("SNOW of 1", x.ice(0, 0, 0, 1, 1, 1), 0);
+        e.beyond("SNOW behind the last CELL", x.ice(0, 0, 0, 1, 2, 1), 3);
         cannot("too heavy", snow, "", "go 41 0 5;");
         cannot("against LANES", snow, "lane 1 0;lane 3 0;", "go 1 0 5;");
         cannot("to a SHOP", snow + "shop 5 1 0 1;", "", "go 1 0 5;");
@@ -590,6 +594,7 @@ final class EdgeStates {
         e.at("side by side", Check.street("shop 0 9 1 1;shop 1 9 1 1;", "", "").spread(0, 0, 0, 0), 1);
         e.at("a CRACK between", Check.street("crack 0 1;shop 0 9 1 1;shop 1 9 1 1;", "", "").spread(0, 0, 0, 0), 1);
         e.at("corners of 6 by 6", Check.street("size 6 6;shop 0 9 1 1;shop 35 9 1 1;", "", "").spread(0, 0, 0, 0), 10);
+        e.at("the later one at CELL 0", Check.street("shop 5 9 1 1;shop 0 9 1 1;", "", "").spread(0, 0, 0, 0), 2);
         e.beyond("the next row's beginning", Check.street("shop 3 9 1 1;shop 4 9 1 1;", "", "").spread(0, 0, 0, 0), 4);
 
         e.section("Promise 36");
@@ -598,6 +603,7 @@ final class EdgeStates {
         e.says("NONE: they are fewer");
         e.at("two", x.spread(0, 0, 0, 1), 6);
         e.beyond("one, and one without", Check.street("shop 0 9 1 1;shop 1 9 0 1;", "", "").spread(0, 0, 0, 0), -1);
+        e.beyond("one without, and one", Check.street("shop 0 9 0 1;shop 1 9 1 1;", "", "").spread(0, 0, 0, 0), -1);
         e.beyond("one, and one that fell",
             Check.street("ice 1 1;shop 0 9 1 1;shop 1 9 1 1;", "", "").spread(0, 0, 0, 0), -1);
         e.beyond("one, and one off",

@@ -6,6 +6,7 @@ public final class EdgeTest {
         new EdgeStates(edge).all();
         new EdgeWays(edge).all();
         new EdgeDays(edge).all();
+        new EdgeFull(edge).all();
         edge.finish();
     }
 }

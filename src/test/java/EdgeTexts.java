@@ -707,6 +707,8 @@ final class EdgeTexts {
         e.at("ACTS", x.act(0, -1, 0), 1);
         e.at("a text with a FAULT", Check.tell(x, 2, -1, "day"), -1);
         e.at("empty behind it, too", x.end(1), -1);
+        nothingIsLeft(";");
+        nothingIsLeft("");
 
         e.says("or in the place of one: its number.");
         e.at("in the place of the second", Check.tell(x, 0, 1, "bear 9;"), 1);
@@ -729,6 +731,40 @@ final class EdgeTexts {
         e.at("told anew", x.law(0, 3), 9);
 
         noText();
+    }
+
+    /** A text behind another one, or behind one with a FAULT, tells of itself alone. */
+    private void nothingIsLeft(String end) {
+        int number = end.isEmpty() ? -1 : 0;
+        IceStreet x = new IceStreet();
+        String lake = "size 6 6;all 7;ice 1 8;snow 1 2;weak 1 3;crack 0 1;crack 34 35;frost 1 2 3;bear 5;shore 0 1 35;"
+            + SIX.replace("shop 5", "shop 35") + "all 9" + end;
+        String law = "least 9;apart 9;share 9;rent 9;" + "lane 1 0;".repeat(12) + "bar 0 35" + end;
+        String plan = "sweep 3;".repeat(29) + "day" + end;
+        e.at("a LAKE", Check.tell(x, 0, -1, lake), number);
+        e.at("a LAW", Check.tell(x, 1, -1, law), number);
+        e.at("a PLAN", Check.tell(x, 2, -1, plan), number);
+        for (int sort = 0; sort < 3; sort++) {
+            e.at("an empty text", x.text(sort, -1), number + 1);
+        }
+        IceStreet y = Check.street("", "", "");
+        int k = number + 1;
+        for (int what = -1; what < 100; what++) {
+            e.at("LAKE, what " + what, x.lake(k, what), y.lake(0, what));
+            e.at("LAW, what " + what, x.law(k, what), y.law(0, what));
+        }
+        for (int c = 0; c < 17; c++) {
+            for (int what = 0; what < 5; what++) {
+                e.at("CELL " + c + ", what " + what, x.cell(k, c, what), y.cell(0, c, what));
+            }
+        }
+        e.at("SHOP 0", x.shop(k, 0, 0), -1);
+        e.at("ACTS", x.act(k, -1, 0), 0);
+        e.at("SHORT from 0", x.way(k, k, -1, 0, 40, 0, 1, 0, 0), 2);
+        e.at("PARTS", x.state(k, k, -1, 0, 4), 1);
+        e.at("as many as may be, once more", Check.tell(x, 0, k, SIX), k);
+        e.at("as many as may be, once more", Check.tell(x, 1, k, "lane 1 0;".repeat(12)), k);
+        e.at("as many as may be, once more", Check.tell(x, 2, k, "day;".repeat(30)), k);
     }
 
     private void noText() {
@@ -1017,6 +1053,7 @@ final class EdgeTexts {
         e.at("again 2", x.again(2), true);
         e.at("again 0, taken anew", x.again(0), true);
         e.at("LAKES", x.count(0), 2);
+        imagedAll();
         e.says("false for another k.");
         e.at("image 2", x.image(2), true);
         for (int k : new int[] {-1, 3, 4, Integer.MIN_VALUE, Integer.MAX_VALUE}) {
@@ -1024,6 +1061,40 @@ final class EdgeTexts {
             e.beyond("again " + k, x.again(k), false);
         }
         taken();
+    }
+
+    /** As many of all sorts as may be, each told anew behind the image. */
+    private void imagedAll() {
+        IceStreet x = new IceStreet();
+        int[] most = {2, 2, 3};
+        String[] lines = {"bear ", "rent ", "sweep "};
+        for (int sort = 0; sort < 3; sort++) {
+            for (int k = 0; k < most[sort]; k++) {
+                Check.tell(x, sort, -1, lines[sort] + (k + 1) + ";");
+            }
+        }
+        e.at("image 0", x.image(0), true);
+        for (int sort = 0; sort < 3; sort++) {
+            for (int k = 0; k < most[sort]; k++) {
+                Check.tell(x, sort, k, lines[sort] + (k + 11) + ";");
+            }
+        }
+        e.at("image 1", x.image(1), true);
+        for (int image = 0; image < 2; image++) {
+            e.at("again " + image, x.again(image), true);
+            for (int sort = 0; sort < 3; sort++) {
+                e.at("how many", x.count(sort), most[sort]);
+            }
+            for (int k = 0; k < 3; k++) {
+                if (k < 2) {
+                    e.at("BEAR of " + k, x.lake(k, 2), 10 * image + k + 1);
+                    e.at("RENT of " + k, x.law(k, 3), 10 * image + k + 1);
+                }
+                e.at("CELL of " + k, x.act(k, 0, 1), 10 * image + k + 1);
+            }
+        }
+        e.at("again 0", x.again(0), true);
+        e.at("BEAR of 1", x.lake(1, 2), 2);
     }
 
     private void taken() {

@@ -210,6 +210,9 @@ final class EdgeWays {
         e.at("3", street("size 3 3;", "").sawn(0, 0, 0, 0, 1, 3, 5), 3);
         e.at("4", street("size 6 6;", "").sawn(0, 0, 0, 0, 1, 7, 28), 4);
         e.at("4, close together", street("size 5 5;", "").sawn(0, 0, 0, 0, 1, 6, 8), 4);
+        e.at("2, CELL 0 being one", street("size 2 2;", "").sawn(0, 0, 0, 0, 1, 1, 2), 2);
+        e.at("1, CELL 0", street("size 2 2;ice 3 0;", "").sawn(0, 0, 0, 0, 1, 1, 2), 1);
+        e.at("1, CELL 35", street("size 6 6;ice 28 0;ice 23 0;", "").sawn(0, 0, 0, 0, 1, 34, 29), 1);
         e.beyond("0", street("size 3 2;ice 1 0;ice 3 0;", "").sawn(0, 0, 0, 0, 1, 0, 2), 0);
         e.beyond("by none", street("size 3 2;", "").sawn(0, 0, 0, 0, 1, 0, 1), -1);
         e.at("one for a heavier load", street(LAKE, "").sawn(0, 0, 0, 0, 36, 0, 8), 1);
@@ -260,6 +263,8 @@ final class EdgeWays {
         e.beyond("it has not begun yet", x.meet(0, 0, 0, 0, 1001, 401, 502, 3, false), -1);
         e.beyond("it is behind its last CELL", x.meet(0, 0, 0, 0, 1001, 400, 102, 0, false), 1);
         e.beyond("it is gone when the first one comes", x.meet(0, 0, 0, 0, 1001, 500, 403, 0, false), -1);
+        e.at("a longer one", x.meet(0, 0, 0, 0, 1001, 4, 500, 0, false), 2);
+        e.beyond("a shorter one then", x.meet(0, 0, 0, 0, 1001, 4, 100, 0, false), -1);
 
         e.says("PAUSE: the fewest minutes, 0 .. 40, which the second one should begin later, so that they do not MEET.");
         e.at("0", x.meet(0, 0, 0, 0, 1001, 400, 1106, 0, true), 0);
@@ -599,6 +604,14 @@ final class EdgeWays {
         e.says("ways as 100 times the last CELL and the first one");
         e.at("0 to 11 and 11 to 0", x.meet(0, 0, 0, 0, 1001, 1100, 11, 6, false), 6);
         e.at("11 to 0 and 0 to 11", x.meet(0, 0, 0, 0, 1001, 11, 1100, 6, false), 6);
+        e.at("2 to 3, both", x.meet(0, 0, 0, 0, 1001, 302, 302, 0, false), 0);
+        e.at("3 to 2, both", x.meet(0, 0, 0, 0, 1001, 203, 203, 0, false), 0);
+        IceStreet largest = street("size 6 6;", "");
+        e.at("34 to 35", largest.meet(0, 0, 0, 0, 1001, 3534, 3534, 0, false), 0);
+        e.beyond("0 to 36", largest.meet(0, 0, 0, 0, 1001, 3600, 3534, 0, false), -1);
+        e.beyond("0 to 36, the second", largest.meet(0, 0, 0, 0, 1001, 3534, 3600, 0, false), -1);
+        e.beyond("36 to 0", largest.meet(0, 0, 0, 0, 1001, 36, 3534, 0, false), -1);
+        e.beyond("36 to 0, the second", largest.meet(0, 0, 0, 0, 1001, 3534, 36, 0, false), -1);
         for (int way : new int[] {0, 101, 1111, 1200, 12, 1299, 9900, 99, -1, -200, -2, 200 + 10000, 3600, 6400,
             Integer.MIN_VALUE, Integer.MAX_VALUE}) {
             e.beyond("way " + way, x.meet(0, 0, 0, 0, 1001, way, 2, 0, false), -1);
@@ -612,6 +625,7 @@ final class EdgeWays {
         // No WAY lasts 40 minutes, so that none is met that begins so late.
         e.at("later 40", x.meet(0, 0, 0, 0, 1001, 200, 2, 40, false), -1);
         e.beyond("later -1", x.meet(0, 0, 0, 0, 1001, 200, 2, -1, false), -1);
+        e.beyond("later -1, the first one being one minute later", x.meet(0, 0, 0, 0, 1001, 300, 3, -1, false), -1);
         e.beyond("later 41", x.meet(0, 0, 0, 0, 1001, 200, 2, 41, false), -1);
         e.beyond("later far off", x.meet(0, 0, 0, 0, 1001, 200, 2, Integer.MIN_VALUE, false), -1);
         e.beyond("later far off", x.meet(0, 0, 0, 0, 1001, 200, 2, Integer.MAX_VALUE, false), -1);
