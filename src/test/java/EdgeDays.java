@@ -102,6 +102,8 @@ final class EdgeDays {
         fair("6 by 6 without the last", "size 6 6;ice 35 3;", 1, 6, 6, -1, 0);
         fair("5 by 6 without the last", "size 6 6;ice 35 3;", 1, 5, 6, 0, 60);
         fair("5 by 6 without the first", "size 6 6;ice 0 3;", 1, 5, 6, 1, 60);
+        fair("6 by 5 without the first", "size 6 6;ice 0 3;", 1, 6, 5, 6, 60);
+        fair("6 by 5 without the last of the second row", "size 6 6;ice 11 3;", 1, 6, 5, -1, 0);
         fair("beside a SHOP, 35 and 5", "size 2 2;shop 0 10 0 1;", 35, 1, 1, 1, 60);
         fair("beside a SHOP, 36 and 5", "size 2 2;shop 0 10 0 1;", 36, 1, 1, 3, 60);
         fair("with a SHOP", "size 2 2;shop 0 10 0 1;", 1, 2, 2, -1, 0);

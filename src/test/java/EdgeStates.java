@@ -304,6 +304,11 @@ final class EdgeStates {
         way(x, 2, 6, 2, 1, 0, 3, 6);
         x = Check.street("size 3 3;ice 2 0;", "", "");
         way(x, 0, 8, 0, 1, 4, 5, 8);
+        x = Check.street("size 3 3;", "lane 1 0;lane 4 3;lane 8 7;", "");
+        way(x, 0, 8, 0, 3, 6, 7, 4, 5, 8);
+        x = Check.street("size 3 3;", "lane 1 0;", "");
+        way(x, 0, 8, 0, 3, 4, 5, 8);
+        way(x, 8, 0, 8, 5, 2, 1, 0);
         x = Check.street("size 3 3;ice 1 0;", "", "");
         e.at("the fewest", x.way(0, 0, 0, 0, 1, 0, 2, 0, 0), 5);
         e.beyond("behind its last", x.way(0, 0, 0, 0, 1, 0, 2, 0, 15), -1);
@@ -606,6 +611,10 @@ final class EdgeStates {
         e.beyond("one without, and one", Check.street("shop 0 9 0 1;shop 1 9 1 1;", "", "").spread(0, 0, 0, 0), -1);
         e.beyond("one, and one that fell",
             Check.street("ice 1 1;shop 0 9 1 1;shop 1 9 1 1;", "", "").spread(0, 0, 0, 0), -1);
+        e.beyond("one that fell, and one",
+            Check.street("ice 0 1;shop 0 9 1 1;shop 1 9 1 1;", "", "").spread(0, 0, 0, 0), -1);
+        e.beyond("one off, and one",
+            Check.street("shore 0;shop 0 9 1 1;shop 1 9 1 1;", "", "off 0;").spread(0, 0, 0, 1), -1);
         e.beyond("one, and one off",
             Check.street("shore 1;shop 0 9 1 1;shop 1 9 1 1;", "", "off 1;").spread(0, 0, 0, 1), -1);
         e.beyond("none", Check.street("", "", "").spread(0, 0, 0, 0), -1);

@@ -299,6 +299,7 @@ final class EdgeTexts {
         }
         e.bad(0, "frost -;", 1, 7);
         e.bad(0, "frost 1 -;", 1, 9);
+        e.bad(0, "frost 1 -;x", 1, 9);
         e.bad(0, "frost - - 5;", 1, 8);
         e.bad(0, "frost +5;", 1, 6);
         e.bad(0, "frost 5-;", 1, 8);
@@ -320,6 +321,7 @@ final class EdgeTexts {
         int last = line.lastIndexOf(' ');
         if (last > 0) {
             e.bad(sort, line.substring(0, last) + ";", 1, last);
+            e.bad(sort, line.substring(0, last) + ";x", 1, last);
             e.bad(sort, line.substring(0, last), 1, last);
             e.bad(sort, line.substring(0, last) + " x;", 1, last + 1);
         }
