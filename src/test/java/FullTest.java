@@ -254,7 +254,8 @@ public final class FullTest {
     private void askWay() {
         int a = r.nextInt(m.w * m.h);
         int b = (a + 1 + r.nextInt(m.w * m.h - 1)) % (m.w * m.h);
-        int load = 1 + r.nextInt(r.nextInt(4) == 0 ? 200 : 20);
+        int[] greatest = {20, 20, 20, 200, 999};
+        int load = 1 + r.nextInt(greatest[r.nextInt(5)]);
         String trip = "of " + load + " from " + a + " to " + b;
         int more = m.mostMore(s, load, a, b);
         int most = m.mostMore(s, 1, a, b);
